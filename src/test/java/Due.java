@@ -18,11 +18,15 @@ final class Due {
         }
     }
 
-    /** The letters of a text come one by one and are a ROW. */
-    static int row(EachSecondStruck x, String text) {
+    static void feed(EachSecondStruck x, String text) {
         for (int i = 0; i < text.length(); i++) {
             x.feed(text.charAt(i));
         }
+    }
+
+    /** The letters of a text come one by one and are a ROW. */
+    static int row(EachSecondStruck x, String text) {
+        feed(x, text);
         return x.row();
     }
 
