@@ -467,6 +467,14 @@ public final class BoundsTest {
             TWINS.refuse("endlessWhen(" + by + ", 1501)", 6, y -> y.endlessWhen(by, 1501));
             TWINS.refuse("endlessWhen(" + by + ", MOST)", 6, y -> y.endlessWhen(by, MOST));
         }
+        // 9 is on PLACES 9, 5, 4 and 19 on PLACES 19, 10, 7: they go in ROUND 3
+        due("endlessWhen(0, 9)", x.endlessWhen(0, 9), 3);
+        due("endlessWhen(1, 19)", x.endlessWhen(1, 19), 3);
+        x.set(1, 3);
+        // 4 is on PLACES 4, 3
+        due("endlessWhen(2, 4), FIGURE 3", x.endlessWhen(2, 4), 2);
+        due("endlessWhen(2, 2), FIGURE 3", x.endlessWhen(2, 2), -9);
+        due("endlessWhen(2, 1500), FIGURE 3", x.endlessWhen(2, 1500), 1);
         noneRefused("endlessWhen", x);
     }
 
@@ -514,6 +522,16 @@ public final class BoundsTest {
         due("throwsBy(0, 1)", x.throwsBy(0, 1), 1);
         due("throwsBy(12, 0)", x.throwsBy(12, 0), 1);
         due("throwsBy(12, 1)", x.throwsBy(12, 1), 13);
+        x.round();
+        x.round();
+        // from ROUND 3 on: 3 of 4, 4 of 5, 5 of 6 are 1 of 2 in least terms
+        due("throwsBy(3, 0) at ROUND 2", x.throwsBy(3, 0), 1);
+        due("throwsBy(3, 1) at ROUND 2", x.throwsBy(3, 1), 2);
+        x.set(0, 2);
+        x.set(1, 9);
+        // 8 of 9, twelve times
+        due("throwsBy(12, 0), SAME 9", x.throwsBy(12, 0), 68719476736L);
+        due("throwsBy(12, 1), SAME 9", x.throwsBy(12, 1), 282429536481L);
         noneRefused("throwsBy", x);
         for (int part = 0; part <= 1; part++) {
             int of = part;

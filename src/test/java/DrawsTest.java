@@ -81,8 +81,8 @@ public final class DrawsTest {
     }
 
     private static void manySeeds() {
-        EachSecondStruck x = Due.by("n120;");
         for (int n = 1; n <= 30; n++) {
+            EachSecondStruck x = Due.by("n120;");
             for (int i = -50; i <= 50; i++) {
                 int z = i * 42949673;
                 due("seeds(" + n + ", " + z + ")", x.seeds(n, z), due(120, n, z));

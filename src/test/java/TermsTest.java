@@ -201,6 +201,16 @@ public final class TermsTest {
         due("two STEPS, from now", x.rounds(), 1);
         x.round();
         due("two STEPS, from now", x.rounds(), 0);
+        // LUCK alone can let one go behind a ROUND in which nobody goes: THE END is the first all the same
+        x = Due.by("n10;s12;x3,9;");
+        due("LUCK rounds()", x.rounds(), 1);
+        due("LUCK when(3), who would go in ROUND 3", x.when(3), -9);
+        stay("LUCK", x, 1, 9, 5, 7, 3);
+        x.round();
+        due("LUCK rounds(), THE END is now", x.rounds(), 0);
+        due("LUCK round(), nobody goes", x.round(), 0);
+        due("LUCK rounds(), from now on there is another END", x.rounds(), 1);
+        stay("LUCK", x, 1, 9, 5, 7);
         x = Due.by("n120;s52;");
         due("FIRSTS ends when nobody is left", x.behind(2, x.rounds()), -9);
         due("count(8)", x.count(8), 0);
@@ -286,6 +296,13 @@ public final class TermsTest {
         due("beside(1), one of two stays", x.beside(1), -9);
         x = Due.by("n120;s23;");
         due("friends() of 120", x.friends(), 1);
+        x = Due.by("n120;s33;x1,2;");
+        due("friends() of 120, none", x.friends(), -9);
+        // the last in the row stays, and nobody stands behind it
+        x = behindRounds("n4;s62;", 1);
+        due("friends() of two, the last stays", x.friends(), -9);
+        x.round();
+        due("friends() of one who stays", x.friends(), -9);
     }
 
     private static void toldRow() {
@@ -392,6 +409,13 @@ public final class TermsTest {
         see("n40;s29;", 0, -9, 2, 1, 4, 3, 5, 6, 7, 8);
         see("n40;s52;", 780, 1002);
         see("n40;s42;t9;t2;", 1, 1040, 40);
+        // by LUCK a change of places changes who goes
+        see("n3;s12;", 1, 1003, 3);
+        see("n3;s12;", 1, 1002, 2, 3);
+        see("n3;s12;", 1, 2003, 1);
+        see("n10;s12;", 1, 3009, 1, 9, 5, 7, 3);
+        // both even, or 5, who goes too, with an even one
+        see("n10;s12;", 15, 2004, 1, 3, 7, 9);
         // places changed now do not matter
         see("n2;x1,2;", 1, 1002, 2);
     }
