@@ -2,7 +2,7 @@ import java.util.Arrays;
 
 /**
  * Children with numbers in a row, and strikers of seven kinds who let them go round by round.
- * The promises that are named in the comments are those of the document DOC.md.
+ * Words in capitals are the terms of the document, DOC.md.
  */
 public final class EachSecondStruck {
     private static final int NONE = -9;
